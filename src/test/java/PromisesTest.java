@@ -287,6 +287,10 @@ public final class PromisesTest {
     private static void groupFindsFaults() {
         fault("floor 3;", 1, 0);
         fault("carx 0 1;", 1, 0);
+        fault("carz 0 1;", 1, 0);
+        fault("acar 0 1;", 1, 0);
+        fault("bar 0 1;", 1, 0);
+        fault("cat 0 1;", 1, 0);
         fault("car 0;", 1, 5);
         fault("car 0 1", 1, 7);
         fault("car 0 1  ", 1, 9);
@@ -716,6 +720,15 @@ public final class PromisesTest {
         x.ticks(1);
         due(13, "who has TO 0 is DONE", rider(x, 0, 7), 4);
         due(13, "who hasn't waits", rider(x, 1, 5), 0);
+        x = of("car 0 1;rider 0 0 1;dwell 1;");
+        x.ticks(3);
+        x.fire(true);
+        x.ticks(1);
+        due(13, "at HOME", car(x, 0, 3), 0);
+        due(13, "by the WAY of a FIRE", car(x, 0, 4), -1);
+        x.fire(false);
+        x.ticks(1);
+        due(13, "that is over too", car(x, 0, 4), 0);
         x = of("car 5 4;");
         x.out(0, true);
         x.fire(true);
@@ -1107,6 +1120,7 @@ public final class PromisesTest {
         x.rule(1, 9);
         x.forget();
         x.note(5, 5);
+        x.note(0, 15);
         x.ticks(0);
         feedText(x, "car");
         due(28, "restored", x.restore(), true);
@@ -1123,8 +1137,13 @@ public final class PromisesTest {
         due(28, "late", count(x, 4), 0);
         due(28, "undo", x.undo(), 0);
         due(28, "TIME", count(x, 7), 0);
+        due(28, "CARS", count(x, 1), 2);
+        due(28, "RIDERS", count(x, 2), 2);
         x.ticks(60);
+        x.forget();
+        x.note(0, 14);
         due(28, "again", x.restore(), true);
+        due(28, "what is NOTED", fits(x, 0), 24);
         due(28, "TIME", count(x, 7), 2);
         due(28, "undo", x.undo(), 1);
         x.image();
