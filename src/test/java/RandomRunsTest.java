@@ -1,3 +1,7 @@
+import java.lang.reflect.InvocationTargetException;
+import java.lang.reflect.Method;
+import java.util.HashMap;
+import java.util.Map;
 import java.util.NoSuchElementException;
 import java.util.Random;
 
@@ -10,6 +14,8 @@ public final class RandomRunsTest {
     private static final int[] WEIGHTS = {0, 0, 4, 40, 50, 40, 25, 20, 60, 40, 12, 6, 14, 16, 8, 6, 3, 3, 1, 1, 8, 1,
         1, 1, 4, 4, 4};
 
+    private static final Map<String, Method> FACE = new HashMap<>();
+
     private final Random random;
     private LiftBank bank;
     private Oracle oracle;
@@ -20,6 +26,7 @@ public final class RandomRunsTest {
     }
 
     public static void main(String[] args) {
+        for (Method m : LiftBank.class.getMethods()) FACE.put(m.getName(), m);
         int runs = 700;
         for (int seed = 0; seed < runs; seed++) {
             String wrong = new RandomRunsTest(seed).run(seed % 3 == 0);
@@ -138,78 +145,23 @@ public final class RandomRunsTest {
     }
 
     private String answer(int what, int[] a, boolean real) {
+        Object x = real ? bank : oracle;
+        Method face = FACE.get(NAMES[what]);
+        Class<?>[] types = face.getParameterTypes();
+        Object[] given = new Object[types.length];
+        for (int i = 0; i < types.length; i++) {
+            if (types[i] == boolean.class) given[i] = a[i] == 1;
+            else given[i] = a[i];
+        }
         try {
-            return real ? ofBank(NAMES[what], a) : ofOracle(NAMES[what], a);
-        } catch (NoSuchElementException | IllegalArgumentException e) {
-            return "throws." + e.getClass().getSimpleName();
-        } catch (RuntimeException e) {
-            return "the machine throws " + e;
-        }
-    }
-
-    private String ofBank(String name, int[] a) {
-        LiftBank x = bank;
-        switch (name) {
-            case "feed": return "" + x.feed(a[0], a[1], a[2], a[3], a[4]);
-            case "group": return "" + x.group(a[0]);
-            case "fault": return "" + x.fault();
-            case "count": return "" + x.count(a[0]);
-            case "car": return "" + x.car(a[0], a[1]);
-            case "rider": return "" + x.rider(a[0], a[1]);
-            case "given": return "" + x.given(a[0], a[1] == 1, a[2]);
-            case "cost": return "" + x.cost(a[0], a[1], a[2] == 1, a[3]);
-            case "ticks": return "" + x.ticks(a[0]);
-            case "come": return "" + x.come(a[0], a[1], a[2]);
-            case "out": return "" + x.out(a[0], a[1] == 1);
-            case "fire": return "" + x.fire(a[0] == 1);
-            case "rule": return "" + x.rule(a[0], a[1]);
-            case "undo": return "" + x.undo();
-            case "ahead": return "" + x.ahead(a[0], a[1]);
-            case "when": return "" + x.when(a[0]);
-            case "mean": return "" + x.mean(a[0], a[1]);
-            case "anew": return "" + x.anew(a[0], a[1], a[2]);
-            case "homes": return "" + x.homes(a[0], a[1]);
-            case "later": return "" + x.later(a[0]);
-            case "note": return "" + x.note(a[0], a[1]);
-            case "fits": return "" + x.fits(a[0]);
-            case "look": return "" + x.look(a[0]);
-            case "years": return "" + x.years(a[0], a[1], a[2]);
-            case "forget": x.forget(); return "";
-            case "image": x.image(); return "";
-            default: return "" + x.restore();
-        }
-    }
-
-    private String ofOracle(String name, int[] a) {
-        Oracle x = oracle;
-        switch (name) {
-            case "feed": return "" + x.feed(a[0], a[1], a[2], a[3], a[4]);
-            case "group": return "" + x.group(a[0]);
-            case "fault": return "" + x.fault();
-            case "count": return "" + x.count(a[0]);
-            case "car": return "" + x.car(a[0], a[1]);
-            case "rider": return "" + x.rider(a[0], a[1]);
-            case "given": return "" + x.given(a[0], a[1] == 1, a[2]);
-            case "cost": return "" + x.cost(a[0], a[1], a[2] == 1, a[3]);
-            case "ticks": return "" + x.ticks(a[0]);
-            case "come": return "" + x.come(a[0], a[1], a[2]);
-            case "out": return "" + x.out(a[0], a[1] == 1);
-            case "fire": return "" + x.fire(a[0] == 1);
-            case "rule": return "" + x.rule(a[0], a[1]);
-            case "undo": return "" + x.undo();
-            case "ahead": return "" + x.ahead(a[0], a[1]);
-            case "when": return "" + x.when(a[0]);
-            case "mean": return "" + x.mean(a[0], a[1]);
-            case "anew": return "" + x.anew(a[0], a[1], a[2]);
-            case "homes": return "" + x.homes(a[0], a[1]);
-            case "later": return "" + x.later(a[0]);
-            case "note": return "" + x.note(a[0], a[1]);
-            case "fits": return "" + x.fits(a[0]);
-            case "look": return "" + x.look(a[0]);
-            case "years": return "" + x.years(a[0], a[1], a[2]);
-            case "forget": x.forget(); return "";
-            case "image": x.image(); return "";
-            default: return "" + x.restore();
+            return "" + x.getClass().getDeclaredMethod(NAMES[what], types).invoke(x, given);
+        } catch (InvocationTargetException e) {
+            Throwable cause = e.getCause();
+            Class<?> type = cause.getClass();
+            boolean told = type == NoSuchElementException.class || type == IllegalArgumentException.class;
+            return told ? "throws." + type.getSimpleName() : "the machine throws " + cause;
+        } catch (ReflectiveOperationException e) {
+            throw new IllegalStateException(e);
         }
     }
 }
