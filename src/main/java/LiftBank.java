@@ -239,9 +239,6 @@ public final class LiftBank {
         }
         desk.acts.keep(now);
         now.burning = is;
-        if (is) {
-            now.giveNothing();
-        }
         return true;
     }
 
@@ -1009,7 +1006,9 @@ public final class LiftBank {
             finished++;
         }
 
+        /** A TICK of a FIRE, in place of (b) and (c): only here CALLS are taken back, not when it begins. */
         private void flee() {
+            takeFromAll(-1L);
             for (int c = 0; c < cars; c++) {
                 Car car = lifts[c];
                 if (car.in) {
@@ -1045,12 +1044,6 @@ public final class LiftBank {
             car.way = 0;
             car.calls = 0L;
             car.in = false;
-        }
-
-        void giveNothing() {
-            for (int c = 0; c < cars; c++) {
-                lifts[c].calls = 0L;
-            }
         }
 
         private int restOf(Car car) {

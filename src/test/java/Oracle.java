@@ -166,6 +166,7 @@ final class Oracle {
         void tick() {
             for (Person p : people) if (p.state.equals("YET") && p.time == time) arrive(p);
             if (fire) {
+                given.clear();
                 for (int c = 0; c < cabs.size(); c++) if (cabs.get(c).in) fireStep(c);
             } else {
                 for (List<Integer> call : calls()) giveIfDue(call);
@@ -653,7 +654,6 @@ final class Oracle {
         }
         act();
         book.now.fire = is;
-        if (is) book.now.given.clear();
         return true;
     }
 

@@ -44,6 +44,7 @@ public final class PromisesTest {
         peak();
         out();
         fire();
+        fireBegins();
         rule();
         undo();
         ahead();
@@ -697,9 +698,12 @@ public final class PromisesTest {
         due(13, "again", x.fire(true), false);
         due(13, "STATUS", count(x, 24), 2);
         due(13, "it burns", count(x, 8), 1);
-        due(13, "CALLS are GIVEN to none", given(x, 1, false, 1), -1);
+        due(13, "CALLS stay GIVEN until a TICK", given(x, 1, false, 1), 0);
         int before = car(x, 1, 9);
-        path(13, x, 0, new int[][] {{2, -1, 0}, {1, -1, 0}, {0, -1, 0}, {0, 0, 0}, {0, 0, 0}});
+        path(13, x, 0, new int[][] {{2, -1, 0}});
+        due(13, "CALLS are GIVEN to none by a TICK", given(x, 1, false, 1), -1);
+        due(13, "STOPS by a TICK", car(x, 0, 8), 1 << 4);
+        path(13, x, 0, new int[][] {{1, -1, 0}, {0, -1, 0}, {0, 0, 0}, {0, 0, 0}});
         due(13, "the RIDER waits below", rider(x, 0, 5), 0);
         due(13, "CALLS still GIVEN to none", given(x, 0, true, 1), -1);
         due(13, "the other car came down too", car(x, 1, 3), 2);
@@ -739,6 +743,37 @@ public final class PromisesTest {
         due(13, "QUIET, as it is at HOME still", count(x, 29), 0);
         x.ticks(1);
         due(13, "never QUIET, as it does not PARK", count(x, 29), -1);
+    }
+
+    /** FIRE takes CALLS back by its first TICK, not when it begins. */
+    private static void fireBegins() {
+        LiftBank x = of("floors 6;car 0 2;rider 0 3 5;rider 2 3 4;");
+        x.ticks(1);
+        x.fire(true);
+        due(13, "STOPS until a TICK", car(x, 0, 8), 1 << 3);
+        due(13, "GIVEN until a TICK", given(x, 3, true, 1), 0);
+        due(13, "COST by its own CALLS until a TICK", cost(x, 0, 5, false, 1), 6);
+        due(13, "none of it AHEAD", ahead(x, 60, 0), 0);
+        due(13, "over without a TICK", x.fire(false), true);
+        due(13, "the CALL was never taken back", given(x, 3, true, 1), 0);
+        x.fire(true);
+        x.ticks(1);
+        due(13, "no STOPS behind a TICK", car(x, 0, 8), 0);
+        due(13, "GIVEN to none behind a TICK", given(x, 3, true, 1), -1);
+        due(13, "COST by this CALL alone", cost(x, 0, 5, false, 1), 5);
+        x.fire(false);
+        due(13, "GIVEN to none until a TICK without a FIRE", given(x, 3, true, 1), -1);
+        due(13, "undone: over", x.undo(), 5);
+        due(13, "undone: the TICK", x.undo(), 4);
+        due(13, "GIVEN as ahead of it", given(x, 3, true, 1), 0);
+
+        x = of("car 3 1;rider 0 3 0;rider 0 2 0;dwell 1;");
+        x.ticks(2);
+        due(13, "full, at 2", car(x, 0, 3), 2);
+        due(13, "a CALL there is GIVEN to it", given(x, 2, false, 1), 0);
+        x.fire(true);
+        x.ticks(1);
+        due(13, "which it does not pass in a FIRE", count(x, 13), 0);
     }
 
     private static void rule() {
