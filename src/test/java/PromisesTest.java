@@ -1,10 +1,5 @@
-import java.util.NoSuchElementException;
-
 /** Each promise by itself, with answers worked out by hand from the document. */
-public final class PromisesTest {
-    private static final int NO_ELEMENT = -1001;
-    private static final int NO_ARGUMENT = -1002;
-
+public final class PromisesTest extends Checks {
     /** Two cars; by POLICY 1 the second RIDER waits for the car that is going away from it. */
     private static final String PAIR = "car 2 4;car 6 4;rider 0 2 7;rider 3 3 0;policy 2;";
     /** One car, which passes a call of the other way, turns, and parks. */
@@ -12,24 +7,10 @@ public final class PromisesTest {
     /** One car for one RIDER alone, which has to pass by. */
     private static final String NARROW = "car 0 1;rider 0 0 3;rider 0 1 3;";
 
-    private static int wrong = 0;
-
-    private static void due(int promise, String what, int got, int want) {
-        if (got != want) {
-            wrong++;
-            System.out.println("promise " + promise + ": " + what + " answered " + got + ", due is " + want);
-        }
-    }
-
-    private static void due(int promise, String what, boolean got, boolean want) {
-        due(promise, what, got ? 1 : 0, want ? 1 : 0);
-    }
-
     public static void main(String[] args) {
         newObject();
         feed();
         groupTakesTexts();
-        groupFindsFaults();
         groupAndTheRest();
         counts();
         cars();
@@ -58,173 +39,7 @@ public final class PromisesTest {
         noted();
         years();
         image();
-        System.out.println(wrong == 0 ? "all promises hold" : wrong + " answers are not as due");
-        if (wrong != 0) System.exit(1);
-    }
-
-    // --- help ---
-
-    private static int feedText(LiftBank x, String text) {
-        int has = x.count(22);
-        for (int i = 0; i < text.length(); i += 20) {
-            int[] n = new int[5];
-            for (int k = 0; k < 20; k++) {
-                int sign = i + k < text.length() ? text.charAt(i + k) : ' ';
-                n[k / 4] = n[k / 4] << 8 | sign;
-            }
-            has = x.feed(n[0], n[1], n[2], n[3], n[4]);
-        }
-        return has;
-    }
-
-    private static int tell(LiftBank x, String text) {
-        feedText(x, text);
-        return x.group(text.length());
-    }
-
-    private static LiftBank of(String text) {
-        LiftBank x = new LiftBank();
-        due(3, "group of " + text, tell(x, text), 0);
-        due(4, "fault of " + text, x.fault(), -1);
-        return x;
-    }
-
-    private static int count(LiftBank x, int what) {
-        try {
-            return x.count(what);
-        } catch (NoSuchElementException e) {
-            return NO_ELEMENT;
-        }
-    }
-
-    private static int car(LiftBank x, int car, int what) {
-        try {
-            return x.car(car, what);
-        } catch (NoSuchElementException e) {
-            return NO_ELEMENT;
-        }
-    }
-
-    private static int rider(LiftBank x, int rider, int what) {
-        try {
-            return x.rider(rider, what);
-        } catch (NoSuchElementException e) {
-            return NO_ELEMENT;
-        }
-    }
-
-    private static int given(LiftBank x, int floor, boolean up, int sort) {
-        try {
-            return x.given(floor, up, sort);
-        } catch (NoSuchElementException e) {
-            return NO_ELEMENT;
-        }
-    }
-
-    private static int cost(LiftBank x, int car, int floor, boolean up, int sort) {
-        try {
-            return x.cost(car, floor, up, sort);
-        } catch (NoSuchElementException e) {
-            return NO_ELEMENT;
-        } catch (IllegalArgumentException e) {
-            return NO_ARGUMENT;
-        }
-    }
-
-    private static int ahead(LiftBank x, int n, int what) {
-        try {
-            return x.ahead(n, what);
-        } catch (NoSuchElementException e) {
-            return NO_ELEMENT;
-        } catch (IllegalArgumentException e) {
-            return NO_ARGUMENT;
-        }
-    }
-
-    private static int when(LiftBank x, int rider) {
-        try {
-            return x.when(rider);
-        } catch (NoSuchElementException e) {
-            return NO_ELEMENT;
-        }
-    }
-
-    private static int mean(LiftBank x, int policy, int late) {
-        try {
-            return x.mean(policy, late);
-        } catch (IllegalArgumentException e) {
-            return NO_ARGUMENT;
-        }
-    }
-
-    private static int anew(LiftBank x, int policy, int late, int what) {
-        try {
-            return x.anew(policy, late, what);
-        } catch (NoSuchElementException e) {
-            return NO_ELEMENT;
-        } catch (IllegalArgumentException e) {
-            return NO_ARGUMENT;
-        }
-    }
-
-    private static int homes(LiftBank x, int car, int what) {
-        try {
-            return x.homes(car, what);
-        } catch (NoSuchElementException e) {
-            return NO_ELEMENT;
-        }
-    }
-
-    private static int later(LiftBank x, int rider) {
-        try {
-            return x.later(rider);
-        } catch (NoSuchElementException e) {
-            return NO_ELEMENT;
-        }
-    }
-
-    private static int fits(LiftBank x, int what) {
-        try {
-            return x.fits(what);
-        } catch (NoSuchElementException e) {
-            return NO_ELEMENT;
-        }
-    }
-
-    private static int look(LiftBank x, int what) {
-        try {
-            return x.look(what);
-        } catch (NoSuchElementException e) {
-            return NO_ELEMENT;
-        }
-    }
-
-    private static int years(LiftBank x, int seed, int n, int what) {
-        try {
-            return x.years(seed, n, what);
-        } catch (NoSuchElementException e) {
-            return NO_ELEMENT;
-        } catch (IllegalArgumentException e) {
-            return NO_ARGUMENT;
-        }
-    }
-
-    private static int group(LiftBank x, int n) {
-        try {
-            return x.group(n);
-        } catch (IllegalArgumentException e) {
-            return NO_ARGUMENT;
-        }
-    }
-
-    /** FLOOR, WAY and DOORS of a car behind each of the next TICKS. */
-    private static void path(int promise, LiftBank x, int car, int[][] rows) {
-        for (int[] row : rows) {
-            int time = x.ticks(1);
-            due(promise, "FLOOR of car " + car + " at TIME " + time, x.car(car, 3), row[0]);
-            due(promise, "WAY of car " + car + " at TIME " + time, x.car(car, 4), row[1]);
-            due(promise, "DOORS of car " + car + " at TIME " + time, x.car(car, 5), row[2]);
-        }
+        end();
     }
 
     // --- 1 to 4 ---
@@ -274,72 +89,6 @@ public final class PromisesTest {
         }
         of("dwell 1;late 0;policy 2;peak 0;");
         of("floors 2;car 1 1;car 1 1;car 1 1;car 1 1;" + "rider 1 0 1;".repeat(20));
-    }
-
-    private static void fault(String text, int code, int place) {
-        LiftBank x = of(PAIR);
-        due(3, "group of " + text, tell(x, text), code);
-        due(4, "fault of " + text, x.fault(), place);
-        due(3, "all stays behind " + text, count(x, 1), 2);
-        due(3, "STATUS behind " + text, count(x, 23), 1);
-        due(3, "the tape behind " + text, count(x, 22), 0);
-    }
-
-    private static void groupFindsFaults() {
-        fault("floor 3;", 1, 0);
-        fault("carx 0 1;", 1, 0);
-        fault("carz 0 1;", 1, 0);
-        fault("acar 0 1;", 1, 0);
-        fault("bar 0 1;", 1, 0);
-        fault("cat 0 1;", 1, 0);
-        fault("car 0;", 1, 5);
-        fault("car 0 1", 1, 7);
-        fault("car 0 1  ", 1, 9);
-        fault("car", 1, 3);
-        fault("car 0 1 persons parcels;", 1, 16);
-        fault("car 0 1 parcel;", 1, 8);
-        fault("rider 0 1 2 parcels;", 1, 12);
-        fault("rider 0 1 2 persons;", 1, 12);
-        fault("rider 0 1 2;;", 1, 12);
-        fault("123;", 1, 0);
-        fault("car ;", 1, 4);
-        fault("car car 1;", 1, 4);
-        fault("dwell 2 2;", 1, 8);
-        fault("car 0 1\t;", 1, 7);
-        fault("Car 0 1;", 1, 0);
-        fault("car -1 1;", 1, 4);
-        fault("car 0 1\u00e9;", 1, 7);
-        fault("car\r0 1;", 1, 3);
-        fault("floors 1;", 2, 7);
-        fault("floors 13;", 2, 7);
-        fault("floors 008;", 2, 7);
-        fault("car 100 1;", 2, 4);
-        fault("car 0 0;", 2, 6);
-        fault("car 0 7;", 2, 6);
-        fault("rider 100 0 1;", 2, 6);
-        fault("rider 0 000 1;", 2, 8);
-        fault("rider 0 0 0000000000000000001;", 2, 10);
-        fault("dwell 0;", 2, 6);
-        fault("dwell 5;", 2, 6);
-        fault("late 12;", 2, 5);
-        fault("policy 3;", 2, 7);
-        fault("peak 9;", 2, 5);
-        fault("car 0 1;".repeat(4) + "car 0 1;", 2, 32);
-        fault("rider 0 0 1;".repeat(20) + "rider 0 0 1;", 2, 240);
-        fault("car 8 1;", 3, 4);
-        fault("car 99 9;", 3, 4);
-        fault("floors 2;rider 0 2 1;", 3, 17);
-        fault("floors 12;rider 0 1 12;", 3, 20);
-        fault("car 0 1;floors 8;", 4, 8);
-        fault("floors 8;floors 8;", 4, 9);
-        fault("floors 8;dwell 1;dwell 1;", 4, 17);
-        fault("late 1;late 1;", 4, 7);
-        fault("policy 1;car 0 1;policy 1;", 4, 17);
-        fault("peak 1;peak;", 4, 7);
-        fault("rider 0 3 3;", 5, 10);
-        fault("rider 0 3 03 x", 5, 10);
-        fault("car 0 floors 3;", 1, 6);
-        fault("car 0 9;car 9 1;rider 1 1 1;", 2, 6);
     }
 
     private static void groupAndTheRest() {
@@ -400,7 +149,7 @@ public final class PromisesTest {
 
     private static void cars() {
         LiftBank x = of(TURN);
-        path(6, x, 0, new int[][] {{1, 1, 0}, {2, 1, 0}, {3, 1, 0}, {3, 1, 1}, {4, 1, 0}, {5, 1, 0}, {5, -1, 1},
+        path("promise 6", x, 0, new int[][] {{1, 1, 0}, {2, 1, 0}, {3, 1, 0}, {3, 1, 1}, {4, 1, 0}, {5, 1, 0}, {5, -1, 1},
             {4, -1, 0}, {4, -1, 1}, {3, -1, 0}, {2, -1, 0}, {1, -1, 0}, {1, 0, 1}, {0, 0, 0}, {0, 0, 0}});
         due(6, "car(-1, 0)", car(x, -1, 0), NO_ELEMENT);
         due(6, "car(1, 0)", car(x, 1, 0), NO_ELEMENT);
@@ -412,7 +161,7 @@ public final class PromisesTest {
         due(6, "no STOPS for CALLS, as it is full", car(x, 0, 8), 8);
         due(6, "it is IN", car(x, 0, 7), 1);
         // from TIME 1: DOORS, then up past FLOOR 1, and back for who waits there
-        path(6, x, 0, new int[][] {{0, 1, 1}, {1, 1, 0}, {2, 1, 0}, {3, 1, 0}, {3, -1, 2}, {3, -1, 1}, {2, -1, 0},
+        path("promise 6", x, 0, new int[][] {{0, 1, 1}, {1, 1, 0}, {2, 1, 0}, {3, 1, 0}, {3, -1, 2}, {3, -1, 1}, {2, -1, 0},
             {1, -1, 0}, {1, 1, 2}, {1, 1, 1}, {2, 1, 0}, {3, 1, 0}, {3, 0, 2}});
         due(6, "PASSED", count(x, 13), 1);
         x = of("car 0 2;rider 0 1 3;rider 0 2 3;rider 0 2 0;");
@@ -633,7 +382,7 @@ public final class PromisesTest {
         x.come(0, 7, 2);
         due(5, "two again", count(x, 15), 1);
         x = of("car 3 1;rider 1 0 1 parcel;peak 1;car 0 1 parcels;");
-        path(5, x, 0, new int[][] {{3, 0, 0}, {2, 0, 0}, {1, 0, 0}, {0, 0, 0}, {0, 0, 0}});
+        path("promise 5", x, 0, new int[][] {{3, 0, 0}, {2, 0, 0}, {1, 0, 0}, {0, 0, 0}, {0, 0, 0}});
         due(5, "QUIET in a PEAK", count(x, 29), 2);
         x = of("car 3 1;rider 1 0 1 parcel;car 0 1 parcels;peak 0;");
         x.ticks(5);
@@ -700,10 +449,10 @@ public final class PromisesTest {
         due(13, "it burns", count(x, 8), 1);
         due(13, "CALLS stay GIVEN until a TICK", given(x, 1, false, 1), 0);
         int before = car(x, 1, 9);
-        path(13, x, 0, new int[][] {{2, -1, 0}});
+        path("promise 13", x, 0, new int[][] {{2, -1, 0}});
         due(13, "CALLS are GIVEN to none by a TICK", given(x, 1, false, 1), -1);
         due(13, "STOPS by a TICK", car(x, 0, 8), 1 << 4);
-        path(13, x, 0, new int[][] {{1, -1, 0}, {0, -1, 0}, {0, 0, 0}, {0, 0, 0}});
+        path("promise 13", x, 0, new int[][] {{1, -1, 0}, {0, -1, 0}, {0, 0, 0}, {0, 0, 0}});
         due(13, "the RIDER waits below", rider(x, 0, 5), 0);
         due(13, "CALLS still GIVEN to none", given(x, 0, true, 1), -1);
         due(13, "the other car came down too", car(x, 1, 3), 2);
@@ -1106,37 +855,43 @@ public final class PromisesTest {
     }
 
     private static void years() {
-        LiftBank x = of(PAIR);
-        x.ticks(6);
-        LiftBank y = of(PAIR);
-        y.ticks(6);
-        int done = y.count(11);
-        int waited = y.count(14);
-        int passed = y.count(13);
         int[] seeds = {1, 0, -1, Integer.MAX_VALUE, Integer.MIN_VALUE, 77};
         for (int s : seeds) {
-            y.image();
-            seed = s;
-            for (int n = 0; n <= 20; n++) {
-                due(26, "DONE by " + s + ", " + n, years(x, s, n, 0), y.count(11));
-                due(26, "WAITED by " + s + ", " + n, years(x, s, n, 1), y.count(14) - waited);
-                due(26, "PASSED by " + s + ", " + n, years(x, s, n, 2), y.count(13) - passed);
-                int from = draw(8);
-                int to = draw(7);
-                y.come(from, to < from ? to : to + 1, draw(2) == 1 ? 2 : 1);
-                y.ticks(draw(8) + 1);
-            }
-            y.restore();
+            yearsBySeed(PAIR, s);
+            yearsBySeed("floors 3;car 1 2 parcels;rider 0 0 2;dwell 1;", s);
         }
-        due(26, "all is as ever", count(x, 11), done);
-        due(26, "all is as ever", count(x, 7), 6);
-        due(26, "all is as ever", count(x, 2), 2);
+        LiftBank x = of(PAIR);
         due(26, "n 21", years(x, 1, 21, 0), NO_ARGUMENT);
         due(26, "n -1", years(x, 1, -1, 0), NO_ARGUMENT);
         due(26, "what 3", years(x, 1, 21, 3), NO_ELEMENT);
         due(26, "what -1", years(x, 1, 1, -1), NO_ELEMENT);
         x = of("floors 2;car 0 1;" + "rider 0 0 1;".repeat(20));
         due(26, "24 at most", years(x, 5, 20, 0) <= 24, true);
+    }
+
+    private static void yearsBySeed(String text, int s) {
+        LiftBank x = of(text);
+        x.ticks(6);
+        LiftBank y = of(text);
+        y.ticks(6);
+        int floors = y.count(0);
+        int riders = y.count(2);
+        int done = y.count(11);
+        int waited = y.count(14);
+        int passed = y.count(13);
+        seed = s;
+        for (int n = 0; n <= 20; n++) {
+            due(26, "DONE by " + s + ", " + n, years(x, s, n, 0), y.count(11));
+            due(26, "WAITED by " + s + ", " + n, years(x, s, n, 1), y.count(14) - waited);
+            due(26, "PASSED by " + s + ", " + n, years(x, s, n, 2), y.count(13) - passed);
+            int from = draw(floors);
+            int to = draw(floors - 1);
+            y.come(from, to < from ? to : to + 1, draw(2) == 1 ? 2 : 1);
+            y.ticks(draw(8) + 1);
+        }
+        due(26, "all is as ever", count(x, 11), done);
+        due(26, "all is as ever", count(x, 7), 6);
+        due(26, "all is as ever", count(x, 2), riders);
     }
 
     private static void image() {
