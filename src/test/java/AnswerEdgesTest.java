@@ -326,6 +326,10 @@ public final class AnswerEdgesTest extends Checks {
         due("the first of all", later(x, 0), 0);
         x = of(shuttle(5));
         due("the last of all, not DONE within 200 TICKS", later(x, 19), 0);
+        // one TICK later all others come first, and it is not DONE within 200 TICKS
+        x = of("floors 2;car 0 1;dwell 4;" + "rider 5 0 1;".repeat(19) + "rider 4 0 1;");
+        due("DONE without", when(x, 19), 9);
+        due("not DONE is no TIME that is no later", later(x, 19), 0);
     }
 
     /** At 11 the CAR OPENS by the TICK of TIME 13 with no STOP ahead, so a CALL down may come then still. */
@@ -428,6 +432,18 @@ public final class AnswerEdgesTest extends Checks {
         return sum;
     }
 
+    private static int ticksOfYears(int seed, int n, int floors) {
+        state = seed;
+        int sum = 0;
+        for (int i = 0; i < n; i++) {
+            draw(floors);
+            draw(floors - 1);
+            draw(2);
+            sum += draw(8) + 1;
+        }
+        return sum;
+    }
+
     private static void years() {
         int[] seeds = {0, 1, -1, 2, 12345, -1103515245, Integer.MAX_VALUE, Integer.MIN_VALUE};
         for (int seed : seeds) {
@@ -475,6 +491,12 @@ public final class AnswerEdgesTest extends Checks {
         due("24 are DONE", count(x, 11), 24);
         due("24 stay DONE", years(x, 3, 20, 0), 24);
         due("nobody WAITED in it", years(x, 3, 20, 1), 0);
+        x = of("floors 2;car 0 6 persons;dwell 1;rider 0 0 1 parcel;" + "rider 0 0 1;".repeat(19));
+        for (int i = 0; i < 4; i++) x.come(1, 0, 1);
+        x.ticks(60);
+        due("23 are DONE", count(x, 11), 23);
+        due("and stay so", years(x, 3, 20, 0), 23);
+        due("one WAITED in it", years(x, 3, 20, 1), ticksOfYears(3, 20, 2));
         x = of("car 0 1;dwell 1;rider 0 0 4;rider 0 1 4;");
         x.ticks(5);
         due("PASSED ahead of it", count(x, 13), 1);

@@ -21,6 +21,7 @@ public final class CallEdgesTest extends Checks {
     private static Supplier<LiftBank> base;
 
     public static void main(String[] args) {
+        aNewObject();
         feedIsRefused();
         groupIsRefused();
         groupFindsAFault();
@@ -92,7 +93,7 @@ public final class CallEdgesTest extends Checks {
         return told;
     }
 
-    /** What it is like behind each ACT that is UNDONE, and then as its IMAGE. */
+    /** What it is like behind each ACT that is UNDONE, and then as its IMAGE, which has STATUS too. */
     private static List<Integer> undone(LiftBank x) {
         List<Integer> told = new ArrayList<>();
         while (x.undo() >= 0) {
@@ -101,8 +102,10 @@ public final class CallEdgesTest extends Checks {
             told.add(x.count(9));
             told.add(x.count(4));
         }
-        told.add(x.restore() ? 1 : 0);
-        for (int w : new int[] {2, 7, 10, 14, 20, 21, 23, 24, 25}) told.add(x.count(w));
+        boolean restored = x.restore();
+        told.add(restored ? 1 : 0);
+        for (int w : new int[] {2, 7, 10, 14, 20, 21}) told.add(x.count(w));
+        for (int k = 23; restored && k <= 25; k++) told.add(x.count(k));
         return told;
     }
 
@@ -162,7 +165,41 @@ public final class CallEdgesTest extends Checks {
         return is ? 1 : FALSE;
     }
 
-    // --- promises 2 to 4 ---
+    // --- promises 1 to 4 ---
+
+    /** No CARS, no RIDERS, no TEXT told. */
+    private static void aNewObject() {
+        base = LiftBank::new;
+        noArgument("group(1)", x -> x.group(1));
+        noElement("car(0, 0)", x -> x.car(0, 0));
+        noElement("rider(0, 0)", x -> x.rider(0, 0));
+        noElement("given(8, true, 1)", x -> x.given(8, true, 1));
+        changes("given(7, true, 1)", -2, NO, x -> x.given(7, true, 1));
+        noElement("cost(0, 0, true, 1)", x -> x.cost(0, 0, true, 1));
+        noElement("when(0)", x -> x.when(0));
+        noElement("homes(0, 0)", x -> x.homes(0, 0));
+        noElement("later(0)", x -> x.later(0));
+        none("come(0, 8, 1)", 1, x -> x.come(0, 8, 1));
+        refused("out(0, true)", FALSE, 1, x -> of(x.out(0, true)));
+        refused("out(0, false)", FALSE, 1, x -> of(x.out(0, false)));
+        refused("fire(false)", FALSE, 1, x -> of(x.fire(false)));
+        none("note(0, 0)", 2, x -> x.note(0, 0));
+        none("undo()", NO, x -> x.undo());
+        refused("restore()", FALSE, NO, x -> of(x.restore()));
+        for (int what = 0; what < 4; what++) {
+            int w = what;
+            changes("ahead(120, " + w + ")", 0, NO, x -> x.ahead(120, w));
+        }
+        LiftBank x = new LiftBank();
+        due("come", x.come(7, 0, 2), 0);
+        due("ticks", x.ticks(60), 60);
+        due("fire", x.fire(true), true);
+        due("rule", x.rule(0, 2), 1);
+        due("when", when(x, 0), -1);
+        due("later of who came by hand", later(x, 0), NO_ELEMENT);
+        for (int left = 3; left >= 0; left--) due("undo", x.undo(), left);
+        due("RIDERS", x.count(2), 0);
+    }
 
     private static void feedIsRefused() {
         base = CallEdgesTest::atTheLimit;
@@ -237,18 +274,20 @@ public final class CallEdgesTest extends Checks {
             });
         }
         for (int i = 0; i < uses.size(); i++) {
-            LiftBank x = inUse();
-            x.fire(true);
-            x.ticks(9);
-            x.rule(0, 0);
-            for (int k = 0; k < 3; k++) {
-                x.years(k, 20, 0);
-                x.ahead(120, k);
-                x.when(k);
+            for (int seed = 0; seed < 6; seed++) {
+                LiftBank x = inUse();
+                x.rule(0, 0);
+                if (seed % 2 == 1) x.fire(true);
+                x.ahead(120, 0);
+                x.years(seed, 5 + 5 * (seed % 3), 0);
+                due("the TEXT", tell(x, text), 0);
+                due("use " + i + " of a TEXT", uses.get(i).apply(x).equals(uses.get(i).apply(of(text))), true);
             }
-            due("the TEXT", tell(x, text), 0);
-            due("use " + i + " of a TEXT", uses.get(i).apply(x).equals(uses.get(i).apply(of(text))), true);
         }
+        LiftBank x = of("car 0 1;rider 0 0 3;rider 0 1 3;");
+        due("PASSED, as it was foretold", x.ahead(20, 1), 1);
+        due("the TEXT", tell(x, "car 0 1;"), 0);
+        due("nothing PASSED", x.count(13), 0);
     }
 
     // --- promises 5 to 9 ---

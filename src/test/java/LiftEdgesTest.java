@@ -25,6 +25,7 @@ public final class LiftEdgesTest extends Checks {
         costWithin60();
         costAsIfAlone();
         costWithoutThoseAboard();
+        costByItsWay();
         peak();
         peakOfWhoCame();
         fire();
@@ -529,6 +530,14 @@ public final class LiftEdgesTest extends Checks {
         due("COST of up at 2", cost(x, 0, 2, true, 1), 1 + 4 + 1 + 4 + 1 + 2);
     }
 
+    /** It OPENS at 3 on the way up too, but not with the WAY of a CALL down. */
+    private static void costByItsWay() {
+        LiftBank x = of("floors 12;car 0 2;dwell 1;rider 0 0 3;rider 0 0 6;");
+        x.ticks(1);
+        due("COST of up at 3", cost(x, 0, 3, true, 1), 3);
+        due("COST of down at 3", cost(x, 0, 3, false, 1), 3 + 1 + 3 + 1 + 3);
+    }
+
     // --- PEAK ---
 
     /** PEAK or more of the last 8 RIDERS that came, or of all, if fewer did. */
@@ -716,6 +725,17 @@ public final class LiftEdgesTest extends Checks {
         due("both have", count(x, 26), 1);
         x.undo();
         due("undone", count(x, 26), 0);
+        // the first one is put out at 2, and WAITS there until CAR 1 comes back from the second one's TO
+        x = of("car 0 1;car 0 1;dwell 1;rider 0 0 7;");
+        x.ticks(3);
+        x.out(0, true);
+        x.come(0, 7, 1);
+        x.ticks(1);
+        due("the second one is aboard", car(x, 1, 6), 2);
+        due("the first one is not", rider(x, 0, 5), 2);
+        x.ticks(60);
+        due("all DONE", count(x, 11), 2);
+        due("the first time aboard counts", count(x, 26), 0);
     }
 
     private static void overtakenBy(String what, String text, int pairs) {
@@ -796,26 +816,38 @@ public final class LiftEdgesTest extends Checks {
         due("POLICY", count(x, 5), 1);
     }
 
-    /** By hand, with a number that an UNDONE one had. */
+    /** By hand, with a number that another one had, who is UNDONE or not in the IMAGE. */
     private static void whoComesInPlaceOfAnother() {
-        LiftBank x = of("car 0 1;dwell 1;");
-        x.come(0, 3, 1);
-        x.ticks(20);
-        due("DONE", rider(x, 0, 7), 4);
-        x.undo();
-        x.undo();
-        due("come", x.come(5, 6, 2), 0);
-        int[] want = {2, 0, 5, 6, 1, 5, 0, -1};
-        for (int w = 0; w < 8; w++) due("rider(0, " + w + ")", rider(x, 0, w), want[w]);
-        x = of("car 3 1;dwell 1;rider 1 3 7;");
-        x.come(3, 7, 1);
-        x.ticks(2);
-        due("who came by hand is aboard", car(x, 0, 6), 2);
-        x.undo();
-        x.undo();
-        x.ticks(2);
-        due("who was told is aboard", car(x, 0, 6), 1);
-        x.come(3, 6, 1);
-        due("the other one was not yet", count(x, 26), 0);
+        for (int by = 0; by < 2; by++) {
+            LiftBank x = of("car 0 1;dwell 1;");
+            x.image();
+            x.come(0, 3, 1);
+            x.ticks(20);
+            due("DONE", rider(x, 0, 7), 4);
+            goBack(x, by == 0);
+            due("come", x.come(5, 6, 2), 0);
+            int[] want = {2, 0, 5, 6, 1, 5, 0, -1};
+            for (int w = 0; w < 8; w++) due("rider(0, " + w + ")", rider(x, 0, w), want[w]);
+            x = of("car 3 1;dwell 1;rider 1 3 7;");
+            x.image();
+            x.come(3, 7, 1);
+            x.ticks(2);
+            due("who came by hand is aboard", car(x, 0, 6), 2);
+            goBack(x, by == 0);
+            x.ticks(2);
+            due("who was told is aboard", car(x, 0, 6), 1);
+            x.come(3, 6, 1);
+            due("the other one was not yet", count(x, 26), 0);
+        }
+    }
+
+    private static void goBack(LiftBank x, boolean byUndo) {
+        if (byUndo) {
+            x.undo();
+            x.undo();
+        } else {
+            x.restore();
+        }
+        due("TIME", count(x, 7), 0);
     }
 }

@@ -239,6 +239,8 @@ public final class TextEdgesTest extends Checks {
             fault(1, "car 0 1^" + sign + ";");
             fault(1, "^" + sign);
             fault(1, "dwell ^" + sign + "2;");
+            fault(1, "car^" + sign + " 0 1;");
+            fault(1, "car 0^" + sign + " 1;");
         }
         fault(1, "car ^-1 1;");
         fault(1, "^Car 0 1;");
