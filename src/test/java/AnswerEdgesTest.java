@@ -296,6 +296,10 @@ public final class AnswerEdgesTest extends Checks {
         // from 4, 5, 6: 0 and 2, 1 and 1, 2 and 0
         due("of like ones the least", homes(x, 0, 0), 4);
         due("how much", homes(x, 0, 1), 2);
+        // by 0 and by 1 they WAIT 7, by 2 only 3; a FLOOR more and the CALL at 1 were CAR 1's, and they WAITED 2
+        x = of("floors 3;car 0 1;car 0 1;rider 4 2 1;rider 4 1 0;");
+        due("none is above the highest", homes(x, 0, 0), 2);
+        due("how much", homes(x, 0, 1), 3);
     }
 
     // --- LATER ---
