@@ -32,11 +32,9 @@ public final class LiftBank {
     private static final int PERSONS = 1;
     private static final int PARCELS = 2;
 
-    private final char[] tape = new char[MAX_TAPE];
-    private int tapeLength = 0;
+    private final Reader reader = new Reader();
     private int faultPlace = NONE;
     private final Bank spare = new Bank();
-    private final Reader reader = new Reader(tape, spare);
     private final Replay replay = new Replay();
     private final Desk desk = new Desk();
     /** Made by the first image(), as most objects never keep one. */
@@ -47,37 +45,29 @@ public final class LiftBank {
     }
 
     public int feed(int a, int b, int c, int d, int e) {
-        if (tapeLength + FEED_BYTES > MAX_TAPE) {
+        if (reader.held + FEED_BYTES > MAX_TAPE) {
             return NONE;
         }
-        putBytes(a);
-        putBytes(b);
-        putBytes(c);
-        putBytes(d);
-        putBytes(e);
-        return tapeLength;
-    }
-
-    private void putBytes(int number) {
-        for (int shift = 24; shift >= 0 && tapeLength < MAX_TAPE; shift -= 8) {
-            tape[tapeLength] = (char) (number >>> shift & 255);
-            tapeLength++;
-        }
+        reader.put(a);
+        reader.put(b);
+        reader.put(c);
+        reader.put(d);
+        reader.put(e);
+        return reader.held;
     }
 
     public int group(int n) throws IllegalArgumentException {
-        if (n < 0 || n > tapeLength) {
+        if (n < 0 || n > reader.held) {
             throw new IllegalArgumentException("the tape has not so many bytes");
         }
-        tapeLength = 0;
         int found = reader.read(n);
         faultPlace = reader.place;
         if (found != 0) {
             desk.refused[0]++;
             return found;
         }
-        replay.begin(spare);
-        desk.begin(spare);
+        replay.begin(reader.bank);
+        desk.begin(reader.bank);
         pictured = false;
         return 0;
     }
@@ -111,7 +101,7 @@ public final class LiftBank {
             case 19: return replay.missed(now.policy, now.late);
             case 20: return desk.acts.size;
             case 21: return desk.noted;
-            case 22: return tapeLength;
+            case 22: return reader.held;
             case 23: return desk.refused[0];
             case 24: return desk.refused[1];
             case 25: return desk.refused[2];
@@ -1155,7 +1145,7 @@ public final class LiftBank {
         }
     }
 
-    /** Reads the tape as a TEXT into a Bank, which is of no use behind a FAULT. */
+    /** The tape, read as a TEXT into a Bank, which is of no use behind a FAULT. */
     private static final class Reader {
         private static final int END = 0;
         private static final int WORD = 1;
@@ -1169,8 +1159,10 @@ public final class LiftBank {
         private static final int TOO_LATE = 4;
         private static final int SAME_FLOOR = 5;
 
-        private final char[] text;
-        private final Bank bank;
+        private final char[] text = new char[MAX_TAPE];
+        /** How many bytes the tape has. */
+        int held = 0;
+        final Bank bank = new Bank();
         private int length = 0;
         private int at = 0;
         private int kind = END;
@@ -1183,15 +1175,18 @@ public final class LiftBank {
         /** Where the FAULT is; NONE without. */
         int place = NONE;
 
-        Reader(char[] tape, Bank into) {
-            text = tape;
-            bank = into;
+        void put(int number) {
+            for (int shift = 24; shift >= 0 && held < text.length; shift -= 8) {
+                text[held] = (char) (number >>> shift & 255);
+                held++;
+            }
         }
 
-        /** The FAULT of the first n bytes, or 0. */
+        /** The FAULT of the first n bytes, or 0; the tape is empty then. */
         int read(int n) {
             bank.clear();
-            length = Math.min(n, text.length);
+            length = Math.min(n, held);
+            held = 0;
             at = 0;
             clauses = 0;
             told = 0;

@@ -171,6 +171,10 @@ public final class AnswerEdgesTest extends Checks {
         due("without CARS: WAITED from 99 to 199", mean(x, 1, 0), Float.floatToIntBits(101f));
         x = of("rider 99 0 1;rider 98 0 1;rider 98 0 1;");
         due("a third", mean(x, 1, 0), Float.floatToIntBits(305f / 3f));
+        // three full CARS OPEN at once; the thirteenth RIDER is one FLOOR away, and WAITED one
+        String six = "car 0 6;car 3 6;car 6 6;" + "rider 0 0 1;".repeat(6) + "rider 0 3 4;".repeat(6);
+        x = of(six + "rider 0 7 0;");
+        due("the least that is not 0", mean(x, 1, 0), Float.floatToIntBits(1f / 13f));
     }
 
     /** The latest TIME at which one was DONE, whichever number it has. */

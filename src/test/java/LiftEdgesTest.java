@@ -299,6 +299,15 @@ public final class LiftEdgesTest extends Checks {
         x.ticks(60);
         due("none where it PARKS", car(x, 1, 9), 0);
         due("WORK of all CARS", count(x, 28), 0);
+        // one FLOOR up, then down again in a FIRE: 0.7, 0.9, 1.1
+        x = of("car 1 1;rider 0 2 0;");
+        x.ticks(1);
+        due("WORK of 0.7, cut", count(x, 28), 0);
+        x.fire(true);
+        x.ticks(1);
+        due("WORK of 0.9, cut", count(x, 28), 0);
+        x.ticks(1);
+        due("WORK of 1.1, cut", count(x, 28), 1);
     }
 
     /** Who comes aboard by the TICK of its TIME has not WAITED; who WAITS behind it has WAITED one. */
